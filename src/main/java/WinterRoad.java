@@ -385,7 +385,10 @@ public final class WinterRoad {
         return (int) (rest % GROUP);
     }
 
-    /** Things of one kind, a row of numbers for each. */
+    /**
+     * Things of one kind, a row of numbers for each. Every method that takes a row looks itself
+     * whether it exists: a shared look would make the calls of a script too deep.
+     */
     private static final class Table {
         private final int most;
         private final int columns;

@@ -11,6 +11,7 @@ public final class TextTest {
         findsTakenKilometers();
         loads();
         loadForgets();
+        loadLeavesNothing();
         Check.end();
     }
 
@@ -162,6 +163,34 @@ public final class TextTest {
         Check.due("order of convoy 0", 10 * x.member(0, 0) + x.member(0, 1), 1);
         Check.due("the text is kept", x.clearText(), 45);
         Check.due("no vehicles", Check.write(new WinterRoad(), "W33").load(), 0);
+    }
+
+    private static void loadLeavesNothing() {
+        WinterRoad x = Check.road("W12g04040302b012d12090cv942005v919999cv319999");
+        x.hold(1, 2);
+        x.pass(1);
+        x.arrives(1);
+        Check.due("load again", x.load(), 3);
+        int[] counts = {12, 0, 1, 1, 1, 2, 3, 0, 0, 203, 90, 0};
+        for (int what = 0; what < counts.length; what++) {
+            Check.due("about(" + what + ") behind load again", x.about(what), counts[what]);
+        }
+        for (int what = 3; what <= 5; what++) {
+            Check.due("convoy(0, " + what + ") behind load again", x.convoy(0, what), 0);
+            Check.due("convoy(1, " + what + ") behind load again", x.convoy(1, what), 0);
+        }
+        Check.due("kilometer", x.convoy(0, 0), 0);
+        Check.due("vehicles of convoy 0", x.convoy(0, 1), 2);
+        x.hold(1, 2);
+        Check.due("who is left ahead", x.leaves(0), 0);
+        Check.due("load behind a look ahead", x.load(), 3);
+        Check.due("vehicles in the bay", x.bay(0, 2), 0);
+        Check.write(x, "W60");
+        x.load();
+        for (int what = 1; what <= 11; what++) {
+            Check.due("about(" + what + ") of an empty road", x.about(what), 0);
+        }
+        Check.due("a new convoy's kilometer", x.addConvoy() + x.convoy(0, 0) + x.convoy(0, 1), 0);
     }
 
     private static void loadForgets() {
