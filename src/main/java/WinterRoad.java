@@ -560,11 +560,12 @@ public final class WinterRoad {
         private int length;
         private int hours;
 
+        // For looks ahead, which begin with a copy; no part of what is brought back.
         /**
          * Whether anything happened in the last hour but that convoys stood. Once nothing did, no
          * vehicle moves, is helped or gets fuel any more, and a look ahead can stop.
          */
-        private boolean stirs = true;
+        private boolean stirs;
         /** The convoy of which the first vehicle left in a bay is noted, and that note. */
         private int watched = NONE;
         private int firstLeft = NONE;
@@ -587,7 +588,6 @@ public final class WinterRoad {
             vehicles.emptyOut();
             inConvoys.emptyOut();
             inBays.emptyOut();
-            watchNothing();
         }
 
         void copyFrom(State other) {
@@ -600,10 +600,6 @@ public final class WinterRoad {
             vehicles.copyFrom(other.vehicles);
             inConvoys.copyFrom(other.inConvoys);
             inBays.copyFrom(other.inBays);
-            watchNothing();
-        }
-
-        private void watchNothing() {
             stirs = true;
             watched = NONE;
             firstLeft = NONE;
