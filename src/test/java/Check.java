@@ -7,16 +7,41 @@ final class Check {
 
     private static int passed = 0;
     private static int failed = 0;
+    private static String sentence = "";
+    private static Document document;
 
     private Check() {
     }
 
+    /** Says which words of the document the next checks are for; they must stand in that section. */
+    static void sentence(String section, String words) {
+        sentence = section + ", \"" + words + "\": ";
+        tell(document().quotes(section, words), "these words do not stand there");
+    }
+
+    /** The next checks are for no sentence alone. */
+    static void noSentence() {
+        sentence = "";
+    }
+
+    static Document document() {
+        document = document == null ? new Document() : document;
+        return document;
+    }
+
     static void due(String what, int got, int want) {
-        if (got == want) {
-            passed++;
-        } else {
-            failed++;
-            System.out.println(what + " answered " + got + ", due is " + want);
+        tell(got == want, what + " answered " + got + ", due is " + want);
+    }
+
+    static void due(String what, String got, String want) {
+        tell(got.equals(want), what + " answered " + got + ", due is " + want);
+    }
+
+    /** Each of some answers, numbered from 0 behind what they are called. */
+    static void dueEach(String what, int[] got, int... want) {
+        due("how many: " + what, got.length, want.length);
+        for (int i = 0; i < Math.min(got.length, want.length); i++) {
+            due(what + " " + i, got[i], want[i]);
         }
     }
 
@@ -40,11 +65,15 @@ final class Check {
         } catch (RuntimeException e) {
             got = e.getClass() == kind ? "" : e.getClass().getName();
         }
-        if (got.isEmpty()) {
+        tell(got.isEmpty(), what + ": " + got + ", due is " + kind.getName());
+    }
+
+    private static void tell(boolean fine, String otherwise) {
+        if (fine) {
             passed++;
         } else {
             failed++;
-            System.out.println(what + ": " + got + ", due is " + kind.getName());
+            System.out.println(sentence + otherwise);
         }
     }
 

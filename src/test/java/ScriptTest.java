@@ -174,7 +174,7 @@ public final class ScriptTest {
     }
 
     /** Does on a second road, by calls of the face, what simulate tells. */
-    private static int byHand(WinterRoad y, long seed, int m) {
+    static int byHand(WinterRoad y, long seed, int m) {
         int arrived = y.about(7);
         int burnt = y.about(11);
         long x = seed;
