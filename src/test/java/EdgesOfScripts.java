@@ -179,6 +179,7 @@ final class EdgesOfScripts {
         script(2, 1000570001L, NONE);
         for (int m = 2; m <= 9; m++) {
             script(1, 70000 + m, 0);
+            script(2, 1000170000L + m, 1);
         }
     }
 
@@ -267,8 +268,12 @@ final class EdgesOfScripts {
         Check.sentence("Promise 26", "Runs a script on a copy of the state.");
         WinterRoad x = Check.road(ROAD);
         x.pass(1);
-        Check.due("all succeed", x.runScript(3, 300992000910001L), NONE);
-        Check.due("the second fails", x.runScript(3, 300992002410001L), 1);
+        for (int times = 0; times < 2; times++) {
+            Check.due("all succeed", x.runScript(3, 300992000910001L), NONE);
+            Check.due("the second fails", x.runScript(3, 300992002410001L), 1);
+            Check.due("from kilometer 1 to 2", x.runScript(3, 400011000140002L), NONE);
+            Check.due("not to 3", x.runScript(3, 400011000140003L), 2);
+        }
         WinterRoad y = Check.road(ROAD);
         y.pass(1);
         Check.due("all", Look.at(x), Look.at(y));
@@ -382,7 +387,8 @@ final class EdgesOfScripts {
         WinterRoad x = Check.road("W60d00010" + FOUR.substring(3));
         x.hold(0, 2);
         x.simulate(2, 99);
-        x.simulate(6, 1);
+        Check.due("the one that is held burns nothing", x.simulate(0, 1), 9);
+        Check.due("the same again", x.simulate(0, 1), 9);
         WinterRoad y = Check.road("W60d00010" + FOUR.substring(3));
         y.hold(0, 2);
         Check.due("all", Look.at(x), Look.at(y));

@@ -332,6 +332,8 @@ final class EdgesOfText {
         WinterRoad x = Check.road("W10g01242300b011d05005cv112001v119999cv919999");
         x.hold(0, 1);
         x.pass(30);
+        x.hold(1, 20);
+        x.arrives(1);
         Check.due("load again", x.load(), 3);
         Check.due("all", Look.at(x), Look.at(Check.road("W10g01242300b011d05005cv112001v119999cv919999")));
         Check.due("hours", x.about(1), 0);
