@@ -37,9 +37,14 @@ final class Document {
         }
     }
 
+    /** The text of a section, its blanks folded; nothing if there is no such section. */
+    String section(String title) {
+        return texts.getOrDefault(title, "");
+    }
+
     /** Whether the words stand in that section ("Terms", "Promise 2"); marks them as quoted. */
     boolean quotes(String section, String words) {
-        String text = texts.getOrDefault(section, "");
+        String text = section(section);
         int at = text.indexOf(words);
         if (at >= 0) {
             Arrays.fill(quoted.get(section), at, at + words.length(), true);
